@@ -203,6 +203,15 @@ public final class StateExplorer {
         }
     }
 
+    // Four states with their 16 choices share a word; the next two say where a state stands.
+    private static int wordOf(int state) {
+        return state >> 2;
+    }
+
+    private static int shiftOf(int state) {
+        return (state & 3) << 4;
+    }
+
     /** The gates with their feeds. A literal, gate * 2 (+ 1 if negated), says how a gate is taken. */
     private static final class Net {
         final int[] sorts = new int[MOST_GATES];
@@ -294,15 +303,6 @@ public final class StateExplorer {
             outputTotal++;
             return outputTotal;
         }
-    }
-
-    // Four states with their 16 choices share a word; these say where a state stands.
-    private static int wordOf(int state) {
-        return state >> 2;
-    }
-
-    private static int shiftOf(int state) {
-        return (state & 3) << 4;
     }
 
     /** What the net comes to with every state and choice, reached or not. */

@@ -9,11 +9,14 @@ public final class ModelTest {
     private static final int NONE = -1;
 
     public static void main(String[] args) {
-        for (int seed = 0; seed < 400; seed++) {
+        for (int seed = 0; seed < 200; seed++) {
             new Run(seed).anyCalls();
         }
-        for (int seed = 1000; seed < 1600; seed++) {
+        for (int seed = 1000; seed < 1500; seed++) {
             new Run(seed).netThenAllQuestions();
+        }
+        for (int seed = 2000; seed < 2080; seed++) {
+            new Run(seed).wideNetThenAllQuestions();
         }
         Checks.finish();
     }
@@ -96,6 +99,40 @@ public final class ModelTest {
                 }
             }
             for (int outputs = random.nextInt(4); outputs > 0 && gates > 0; outputs--) {
+                call("output", random.nextInt(gates), 0, false);
+            }
+            call("explore", 0, 0, false);
+            askAll(gates, 1 << latches);
+        }
+
+        /** Latches that take one of two gates or the other reach many more states, over longer ways. */
+        void wideNetThenAllQuestions() {
+            int inputs = 1 + random.nextInt(2);
+            int latches = 3 + random.nextInt(6);
+            int gates = inputs + latches;
+            for (int i = 0; i < gates; i++) {
+                call("gate", i < inputs ? 0 : 1, 0, false);
+            }
+            for (int latch = inputs; latch < inputs + latches; latch++) {
+                int a = random.nextInt(gates);
+                int b = random.nextInt(4) == 0 ? random.nextInt(inputs) : random.nextInt(gates);
+                for (int i = 0; i < 3; i++) {
+                    call("gate", 2, 0, false);
+                    call("feed", gates + i, i < 2 ? a : gates, i > 0);
+                    call("feed", gates + i, i < 2 ? b : gates + 1, i > 0);
+                }
+                call("feed", latch, gates + 2, random.nextInt(5) == 0);
+                gates += 3;
+            }
+            if (random.nextInt(3) == 0) {
+                call("gate", 2 + random.nextInt(2), 0, false);
+                call("feed", gates, gates, random.nextBoolean());
+                for (int i = 0; i < 4; i++) {
+                    call("feed", gates, random.nextInt(gates), random.nextBoolean());
+                }
+                gates++;
+            }
+            for (int outputs = random.nextInt(3); outputs > 0; outputs--) {
                 call("output", random.nextInt(gates), 0, false);
             }
             call("explore", 0, 0, false);
@@ -186,6 +223,8 @@ public final class ModelTest {
         private final Map<Integer, int[]> settled = new HashMap<>();
         // The least way to each reached state.
         private final Map<Integer, List<Integer>> ways = new HashMap<>();
+        // The gates' values in all reached states with all choices with which the net settles.
+        private final List<int[]> allSettled = new ArrayList<>();
         private boolean[][] apart = new boolean[0][0];
 
         int latches() {
@@ -193,7 +232,11 @@ public final class ModelTest {
         }
 
         private int ofSort(int sort) {
-            return (int) sorts.stream().filter(s -> s == sort).count();
+            int found = 0;
+            for (int one : sorts) {
+                found += one == sort ? 1 : 0;
+            }
+            return found;
         }
 
         int gate(int sort) {
@@ -345,6 +388,7 @@ public final class ModelTest {
                 }
             }
             findWays();
+            findAllSettled();
             tellApart();
             explored = true;
             return ways.size();
@@ -461,8 +505,9 @@ public final class ModelTest {
             if (what < 0 || what > 2) {
                 throw new IndexOutOfBoundsException();
             }
-            for (int distance = 0; distance < 256; distance++) {
-                for (int state = 0; state < 1 << latches(); state++) {
+            int states = 1 << latches();
+            for (int distance = 0; distance < states; distance++) {
+                for (int state = 0; state < states; state++) {
                     for (int choice = 0; choice < choices() && distanceOf(state) == distance; choice++) {
                         if (valuesAt(state, choice) == null) {
                             return what == 0 ? distance : what == 1 ? state : choice;
@@ -473,25 +518,23 @@ public final class ModelTest {
             return NONE;
         }
 
-        private List<int[]> allSettled() {
-            List<int[]> found = new ArrayList<>();
+        private void findAllSettled() {
+            allSettled.clear();
             for (int state : ways.keySet()) {
                 for (int choice = 0; choice < choices(); choice++) {
                     if (valuesAt(state, choice) != null) {
-                        found.add(valuesAt(state, choice));
+                        allSettled.add(valuesAt(state, choice));
                     }
                 }
             }
-            return found;
         }
 
         int always(int gate) {
             somethingExplored();
             gateThere(gate);
-            List<int[]> all = allSettled();
             for (int value = 0; value <= 1; value++) {
                 int due = value;
-                if (!all.isEmpty() && all.stream().allMatch(values -> values[gate] == due)) {
+                if (!allSettled.isEmpty() && allSettled.stream().allMatch(values -> values[gate] == due)) {
                     return value;
                 }
             }
@@ -502,7 +545,7 @@ public final class ModelTest {
             somethingExplored();
             gateThere(gate);
             gateThere(other);
-            return allSettled().stream().allMatch(values -> values[gate] == values[other]);
+            return allSettled.stream().allMatch(values -> values[gate] == values[other]);
         }
 
         private int groupOf(int state) {
@@ -537,7 +580,7 @@ public final class ModelTest {
                 case 6 -> ways.size();
                 case 7 -> ways.values().stream().mapToInt(List::size).max().getAsInt();
                 case 8 -> (int) ways.keySet().stream().mapToInt(this::groupOf).distinct().count();
-                default -> ways.size() * choices() - allSettled().size();
+                default -> ways.size() * choices() - allSettled.size();
             };
         }
     }

@@ -19,6 +19,8 @@ public final class PromisesTest {
         promise5Clear();
         promise6Explore();
         promise6Settling();
+        promise6LongestChain();
+        promise6Anew();
         promise7Distance();
         promise8Way();
         promise8WaySteps();
@@ -28,7 +30,9 @@ public final class PromisesTest {
         promise11DoubtOrder();
         promise12Always();
         promise13IsSame();
+        promise12And13InManyStates();
         promise14Group();
+        promise14GroupByNext();
         promise14GroupBySettling();
         promise14GroupLongChain();
         promise15Count();
@@ -213,7 +217,6 @@ public final class PromisesTest {
         Checks.same("6: a latch behind a latch", free.explore(), 8);
     }
 
-    /** Gate 2 is one gate under test; the latch takes the or that it settles to. */
     private static void promise6Settling() {
         Checks.same("6: an and without feeds is 1", onlyLatchAfter(netOf(LATCH, AND), 1), 1);
         Checks.same("6: an or without feeds is 0", onlyLatchAfter(netOf(LATCH, OR), 1), 0);
@@ -238,6 +241,53 @@ public final class PromisesTest {
             chain.feed(below - 1, below, true);
         }
         Checks.same("6: a chain against the numbers", onlyLatchAfter(chain, top), 0);
+    }
+
+    /** No gate but the last is known at first, and each makes but the one before it known. */
+    private static void promise6LongestChain() {
+        StateExplorer x = netOf(AND);
+        for (int below = 1; below < 60; below++) {
+            x.gate(below % 2 == 0 ? AND : OR);
+            x.feed(below - 1, below, false);
+        }
+        Checks.same("6: a chain of 60", x.explore(), 1);
+        Checks.same("6: it settles", x.count(9), 0);
+        Checks.same("6: to its last one's value", x.always(0), 0);
+    }
+
+    /** What is explored after a change has nothing of what was explored before. */
+    private static void promise6Anew() {
+        StateExplorer x = counter(4);
+        x.output(0);
+        x.output(3);
+        int loop = x.gate(AND);
+        x.feed(loop, loop, false);
+        for (int latch = 0; latch < 4; latch++) {
+            x.feed(loop, latch, false);
+        }
+        Checks.same("6: the first net", x.explore(), 16);
+        Checks.same("11: it does not settle at the end", x.doubt(0), 15);
+        Checks.same("14: its groups", x.count(8), 16);
+        x.clear();
+        x.gate(OR);
+        x.gate(LATCH);
+        x.gate(LATCH);
+        x.gate(AND);
+        x.feed(0, 0, true);
+        x.feed(0, 3, false);
+        x.feed(1, 3, false);
+        Checks.same("6: the second net", x.explore(), 2);
+        Checks.same("7: what is not reached now", x.distance(2), NONE);
+        Checks.same("9: what was far away", x.many(15), 0);
+        for (int what = 0; what <= 2; what++) {
+            Checks.same("11: no doubt any more", x.doubt(what), NONE);
+        }
+        Checks.same("12: only the new values", x.always(0), 1);
+        Checks.same("12: a latch that stays", x.always(2), 0);
+        Checks.same("13: only the new values", x.isSame(0, 3) ? 1 : 0, 1);
+        Checks.same("14: one group", x.count(8), 1);
+        Checks.same("14: of both states", x.group(1), 0);
+        Checks.same("15: no doubts any more", x.count(9), 0);
     }
 
     private static int onlyLatchAfter(StateExplorer x, int gate) {
@@ -474,6 +524,48 @@ public final class PromisesTest {
         Checks.same("13: where the net never settles", never.isSame(0, 1) ? 1 : 0, 1);
         StateExplorer still = netExplored(LATCH, OR, LATCH);
         Checks.same("13: only reached states", still.isSame(0, 1) ? 1 : 0, 1);
+    }
+
+    /** Gates that differ in one state of 256 alone, the first or the last one. */
+    private static void promise12And13InManyStates() {
+        StateExplorer x = counter(8);
+        int last = x.gate(AND);
+        int notFirst = x.gate(OR);
+        for (int latch = 0; latch < 8; latch++) {
+            x.feed(last, latch, false);
+            x.feed(notFirst, latch, false);
+        }
+        int zero = x.gate(OR);
+        int one = x.gate(AND);
+        x.explore();
+        Checks.same("12: 1 in the last state alone", x.always(last), 2);
+        Checks.same("12: 0 in the first state alone", x.always(notFirst), 2);
+        Checks.same("12: 0 in all", x.always(zero), 0);
+        Checks.same("12: 1 in all", x.always(one), 1);
+        Checks.same("13: other in the last state", x.isSame(last, zero) ? 1 : 0, 0);
+        Checks.same("13: other in the last state, turned", x.isSame(zero, last) ? 1 : 0, 0);
+        Checks.same("13: other in the first state", x.isSame(notFirst, one) ? 1 : 0, 0);
+        Checks.same("13: latches 6 and 7", x.isSame(6, 7) ? 1 : 0, 0);
+        Checks.same("13: the same in all", x.isSame(notFirst, notFirst) ? 1 : 0, 1);
+    }
+
+    private static void promise14GroupByNext() {
+        StateExplorer x = counter(4);
+        x.output(0);
+        x.output(1);
+        x.explore();
+        Checks.same("14: four groups of four", x.count(8), 4);
+        for (int state = 0; state < 16; state++) {
+            Checks.same("14: group(" + state + ") of four", x.group(state), state & 3);
+        }
+        StateExplorer by0 = netOf(INPUT, LATCH, LATCH);
+        by0.feed(1, 0, false);
+        by0.feed(2, and(by0, 1, false, 0, true), false);
+        by0.output(2);
+        Checks.same("14: states 0, 1, 2", by0.explore(), 3);
+        Checks.same("14: told apart by the next states of choice 0", by0.group(1), 1);
+        Checks.same("14: told apart by the output", by0.group(2), 2);
+        Checks.same("14: not reached", by0.group(3), NONE);
     }
 
     private static void promise14Group() {

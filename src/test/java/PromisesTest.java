@@ -43,37 +43,6 @@ public final class PromisesTest {
         Checks.finish();
     }
 
-    private static StateExplorer netOf(int... sorts) {
-        StateExplorer x = new StateExplorer();
-        for (int sort : sorts) {
-            x.gate(sort);
-        }
-        return x;
-    }
-
-    /** Gates 0 to bits - 1 are latches that count up by one while the input, gate bits, is 1. */
-    private static StateExplorer counter(int bits) {
-        StateExplorer x = new StateExplorer();
-        for (int bit = 0; bit < bits; bit++) {
-            x.gate(LATCH);
-        }
-        int carry = x.gate(INPUT);
-        for (int bit = 0; bit < bits; bit++) {
-            int both = and(x, bit, false, carry, false);
-            int neither = and(x, bit, true, carry, true);
-            x.feed(bit, and(x, both, true, neither, true), false);
-            carry = both;
-        }
-        return x;
-    }
-
-    private static int and(StateExplorer x, int a, boolean notA, int b, boolean notB) {
-        int gate = x.gate(AND);
-        x.feed(gate, a, notA);
-        x.feed(gate, b, notB);
-        return gate;
-    }
-
     private static void promise1NewObject() {
         StateExplorer x = new StateExplorer();
         for (int what = 0; what <= 9; what++) {
@@ -124,7 +93,7 @@ public final class PromisesTest {
     }
 
     private static void promise3Feed() {
-        StateExplorer x = netOf(INPUT, LATCH, AND, OR);
+        StateExplorer x = Nets.of(INPUT, LATCH, AND, OR);
         Checks.same("3: first feed of the and", x.feed(2, 0, false), 1);
         Checks.same("3: first feed of the or", x.feed(3, 2, true), 1);
         Checks.same("3: second feed of the and", x.feed(2, 1, false), 2);
@@ -141,7 +110,7 @@ public final class PromisesTest {
         Checks.thrown("3: from is looked at before an input", INDEX, () -> x.feed(0, 4, false));
         Checks.thrown("3: from is looked at before a fed latch", INDEX, () -> x.feed(1, -7, false));
         Checks.same("3: feeds after wrong ones", x.count(1), 6);
-        StateExplorer late = netOf(OR, OR);
+        StateExplorer late = Nets.of(OR, OR);
         late.feed(1, 0, true);
         late.feed(0, 1, false);
         late.gate(AND);
@@ -150,7 +119,7 @@ public final class PromisesTest {
     }
 
     private static void promise3FeedLimit() {
-        StateExplorer x = netOf(INPUT, LATCH, LATCH, AND, OR);
+        StateExplorer x = Nets.of(INPUT, LATCH, LATCH, AND, OR);
         x.feed(2, 0, false);
         for (int i = 1; i < 240; i++) {
             Checks.same("3: feed " + i, x.feed(i % 2 == 1 ? 3 : 4, i % 5, false), (i + 1) / 2);
@@ -164,7 +133,7 @@ public final class PromisesTest {
     }
 
     private static void promise4Output() {
-        StateExplorer x = netOf(INPUT, LATCH, AND, OR, OR, OR, AND);
+        StateExplorer x = Nets.of(INPUT, LATCH, AND, OR, OR, OR, AND);
         for (int i = 0; i < 6; i++) {
             Checks.same("4: output", x.output(i), i + 1);
         }
@@ -172,7 +141,7 @@ public final class PromisesTest {
         Checks.same("4: outputs", x.count(4), 6);
         Checks.thrown("4: a missing gate comes before NONE", INDEX, () -> x.output(7));
         Checks.thrown("4: output(-1)", INDEX, () -> x.output(-1));
-        StateExplorer twice = netOf(OR);
+        StateExplorer twice = Nets.of(OR);
         twice.output(0);
         Checks.same("4: each naming of a gate counts", twice.output(0), 2);
         Checks.thrown("4: output(1) of one gate", INDEX, () -> twice.output(1));
@@ -180,7 +149,7 @@ public final class PromisesTest {
     }
 
     private static void promise5Clear() {
-        StateExplorer x = counter(3);
+        StateExplorer x = Nets.counter(3);
         x.output(0);
         int gates = x.count(0);
         x.explore();
@@ -192,10 +161,10 @@ public final class PromisesTest {
         Checks.same("5: numbers begin at 0 again", x.gate(AND), 0);
         Checks.same("5: the new gate has no old feeds", x.feed(0, 0, true), 1);
         Checks.same("5: feeds", x.count(1), 1);
-        StateExplorer full = netOf(INPUT, INPUT, INPUT, INPUT);
+        StateExplorer full = Nets.of(INPUT, INPUT, INPUT, INPUT);
         full.clear();
         Checks.same("5: inputs are free again", full.gate(INPUT), 0);
-        StateExplorer latch = netOf(INPUT, LATCH);
+        StateExplorer latch = Nets.of(INPUT, LATCH);
         latch.feed(1, 0, false);
         latch.clear();
         latch.gate(INPUT);
@@ -206,9 +175,9 @@ public final class PromisesTest {
 
     private static void promise6Explore() {
         Checks.same("6: without gates", new StateExplorer().explore(), 1);
-        Checks.same("6: a latch without a feed", netOf(LATCH).explore(), 1);
-        Checks.same("6: a counter of 8 bits", counter(8).explore(), 256);
-        StateExplorer free = netOf(INPUT, INPUT, LATCH, LATCH, LATCH);
+        Checks.same("6: a latch without a feed", Nets.of(LATCH).explore(), 1);
+        Checks.same("6: a counter of 8 bits", Nets.counter(8).explore(), 256);
+        StateExplorer free = Nets.of(INPUT, INPUT, LATCH, LATCH, LATCH);
         free.feed(2, 0, false);
         free.feed(3, 1, true);
         Checks.same("6: latches that follow inputs", free.explore(), 4);
@@ -218,23 +187,23 @@ public final class PromisesTest {
     }
 
     private static void promise6Settling() {
-        Checks.same("6: an and without feeds is 1", onlyLatchAfter(netOf(LATCH, AND), 1), 1);
-        Checks.same("6: an or without feeds is 0", onlyLatchAfter(netOf(LATCH, OR), 1), 0);
-        StateExplorer loop = netOf(LATCH, AND);
+        Checks.same("6: an and without feeds is 1", onlyLatchAfter(Nets.of(LATCH, AND), 1), 1);
+        Checks.same("6: an or without feeds is 0", onlyLatchAfter(Nets.of(LATCH, OR), 1), 0);
+        StateExplorer loop = Nets.of(LATCH, AND);
         loop.feed(1, 1, false);
         Checks.same("6: an and that feeds itself", onlyLatchAfter(loop, 1), NONE);
-        StateExplorer broken = netOf(LATCH, AND);
+        StateExplorer broken = Nets.of(LATCH, AND);
         broken.feed(1, 1, true);
         broken.feed(1, 0, false);
         Checks.same("6: a 0 makes it known all the same", onlyLatchAfter(broken, 1), 0);
-        StateExplorer forced = netOf(LATCH, OR);
+        StateExplorer forced = Nets.of(LATCH, OR);
         forced.feed(1, 1, true);
         forced.feed(1, 0, true);
         Checks.same("6: a 1 makes an or known all the same", onlyLatchAfter(forced, 1), 1);
-        StateExplorer far = netOf(LATCH, OR, AND);
+        StateExplorer far = Nets.of(LATCH, OR, AND);
         far.feed(2, 2, false);
         Checks.same("6: a gate beside it that is not known", onlyLatchAfter(far, 1), NONE);
-        StateExplorer chain = netOf(LATCH);
+        StateExplorer chain = Nets.of(LATCH);
         int top = chain.gate(OR);
         for (int i = 0; i < 58; i++) {
             int below = chain.gate(i % 2 == 0 ? AND : OR);
@@ -245,7 +214,7 @@ public final class PromisesTest {
 
     /** No gate but the last is known at first, and each makes but the one before it known. */
     private static void promise6LongestChain() {
-        StateExplorer x = netOf(AND);
+        StateExplorer x = Nets.of(AND);
         for (int below = 1; below < 60; below++) {
             x.gate(below % 2 == 0 ? AND : OR);
             x.feed(below - 1, below, false);
@@ -257,7 +226,7 @@ public final class PromisesTest {
 
     /** What is explored after a change has nothing of what was explored before. */
     private static void promise6Anew() {
-        StateExplorer x = counter(4);
+        StateExplorer x = Nets.counter(4);
         x.output(0);
         x.output(3);
         int loop = x.gate(AND);
@@ -297,19 +266,19 @@ public final class PromisesTest {
     }
 
     private static void promise7Distance() {
-        StateExplorer x = counter(4);
+        StateExplorer x = Nets.counter(4);
         x.explore();
         for (int state = 0; state < 16; state++) {
             Checks.same("7: distance in a counter", x.distance(state), state);
         }
         Checks.thrown("7: distance(16)", INDEX, () -> x.distance(16));
         Checks.thrown("7: distance(-1)", INDEX, () -> x.distance(-1));
-        StateExplorer still = netOf(LATCH, LATCH);
+        StateExplorer still = Nets.of(LATCH, LATCH);
         still.explore();
         Checks.same("7: state 0", still.distance(0), 0);
         Checks.same("7: a state that is not reached", still.distance(3), NONE);
         Checks.thrown("7: distance(4)", INDEX, () -> still.distance(4));
-        StateExplorer shift = netOf(INPUT, LATCH, LATCH, LATCH);
+        StateExplorer shift = Nets.of(INPUT, LATCH, LATCH, LATCH);
         shift.feed(1, 0, false);
         shift.feed(2, 1, false);
         shift.feed(3, 2, false);
@@ -325,7 +294,7 @@ public final class PromisesTest {
     }
 
     private static void promise8Way() {
-        StateExplorer x = netOf(INPUT, INPUT, LATCH);
+        StateExplorer x = Nets.of(INPUT, INPUT, LATCH);
         int either = x.gate(OR);
         x.feed(either, 1, false);
         x.feed(either, 0, false);
@@ -339,7 +308,7 @@ public final class PromisesTest {
         Checks.thrown("8: way(-1, 0)", INDEX, () -> x.way(-1, 0));
         Checks.thrown("8: steps are from 0 on", INDEX, () -> x.way(1, -1));
         Checks.thrown("8: also on the way to state 0", INDEX, () -> x.way(0, Integer.MIN_VALUE));
-        StateExplorer still = netOf(LATCH);
+        StateExplorer still = Nets.of(LATCH);
         still.explore();
         Checks.same("8: a state that is not reached", still.way(1, 0), NONE);
         Checks.thrown("8: exceptions come before NONE", INDEX, () -> still.way(1, -1));
@@ -350,8 +319,8 @@ public final class PromisesTest {
      * from 1 it is choice 0. So the least way is 0, 1, though state 1 is the less one.
      */
     private static void promise8WaySteps() {
-        StateExplorer x = netOf(INPUT, LATCH, LATCH);
-        int both = and(x, 1, false, 2, false);
+        StateExplorer x = Nets.of(INPUT, LATCH, LATCH);
+        int both = Nets.and(x, 1, false, 2, false);
         int low = x.gate(OR);
         x.feed(low, 0, false);
         x.feed(low, 1, false);
@@ -369,7 +338,7 @@ public final class PromisesTest {
         Checks.same("8: second step to 3", x.way(3, 1), 1);
         Checks.same("8: step to 1", x.way(1, 0), 1);
         Checks.same("8: step to 2", x.way(2, 0), 0);
-        StateExplorer shift = netOf(INPUT, LATCH, LATCH, LATCH);
+        StateExplorer shift = Nets.of(INPUT, LATCH, LATCH, LATCH);
         shift.feed(1, 0, false);
         shift.feed(2, 1, false);
         shift.feed(3, 2, false);
@@ -381,7 +350,7 @@ public final class PromisesTest {
     }
 
     private static void promise9Many() {
-        StateExplorer shift = netOf(INPUT, LATCH, LATCH, LATCH);
+        StateExplorer shift = Nets.of(INPUT, LATCH, LATCH, LATCH);
         shift.feed(1, 0, false);
         shift.feed(2, 1, false);
         shift.feed(3, 2, false);
@@ -390,19 +359,13 @@ public final class PromisesTest {
         for (int distance = 0; distance < due.length; distance++) {
             Checks.same("9: many(" + distance + ")", shift.many(distance), due[distance]);
         }
-        Checks.same("9: many(-1) is not of states that are not reached", netExplored(LATCH).many(-1), 0);
+        Checks.same("9: many(-1) is not of states that are not reached", Nets.explored(LATCH).many(-1), 0);
         Checks.same("9: many(least int)", shift.many(Integer.MIN_VALUE), 0);
         Checks.same("9: many(greatest int)", shift.many(Integer.MAX_VALUE), 0);
     }
 
-    private static StateExplorer netExplored(int... sorts) {
-        StateExplorer x = netOf(sorts);
-        x.explore();
-        return x;
-    }
-
     private static void promise10Next() {
-        StateExplorer x = netOf(LATCH, INPUT, LATCH, LATCH);
+        StateExplorer x = Nets.of(LATCH, INPUT, LATCH, LATCH);
         x.feed(0, 2, true);
         x.feed(2, 1, true);
         x.explore();
@@ -416,7 +379,7 @@ public final class PromisesTest {
         Checks.thrown("10: choice -1", INDEX, () -> x.next(0, -1));
         Checks.thrown("10: state 8", INDEX, () -> x.next(8, 0));
         Checks.thrown("10: state -1", INDEX, () -> x.next(-1, 0));
-        StateExplorer loop = netOf(INPUT, LATCH, AND);
+        StateExplorer loop = Nets.of(INPUT, LATCH, AND);
         loop.feed(2, 2, false);
         loop.feed(2, 0, false);
         loop.feed(2, 1, false);
@@ -426,11 +389,11 @@ public final class PromisesTest {
         Checks.same("10: does not settle in a state that is not reached", loop.next(1, 1), NONE);
         Checks.same("10: the bits of other inputs are passed over", loop.next(1, 15), NONE);
         Checks.thrown("10: exceptions come before NONE", INDEX, () -> loop.next(1, 17));
-        Checks.same("10: without gates", netExplored().next(0, 15), 0);
+        Checks.same("10: without gates", Nets.explored().next(0, 15), 0);
     }
 
     private static void promise11Doubt() {
-        StateExplorer x = counter(3);
+        StateExplorer x = Nets.counter(3);
         int input = 3;
         int loop = x.gate(AND);
         x.feed(loop, loop, false);
@@ -444,12 +407,12 @@ public final class PromisesTest {
         Checks.same("11: how many", x.count(9), 1);
         Checks.thrown("11: doubt(3)", INDEX, () -> x.doubt(3));
         Checks.thrown("11: doubt(-1)", INDEX, () -> x.doubt(-1));
-        StateExplorer sure = netExplored(INPUT, LATCH, AND);
+        StateExplorer sure = Nets.explored(INPUT, LATCH, AND);
         for (int what = 0; what <= 2; what++) {
             Checks.same("11: without any", sure.doubt(what), NONE);
         }
         Checks.thrown("11: exceptions come before NONE", INDEX, () -> sure.doubt(3));
-        StateExplorer never = netOf(INPUT, OR);
+        StateExplorer never = Nets.of(INPUT, OR);
         never.feed(1, 1, true);
         never.explore();
         for (int what = 0; what <= 2; what++) {
@@ -459,7 +422,7 @@ public final class PromisesTest {
 
     /** State 0 goes to 2 with choice 0 and to 1 with choice 1; both do not settle with choice 1. */
     private static void promise11DoubtOrder() {
-        StateExplorer x = netOf(INPUT, LATCH, LATCH);
+        StateExplorer x = Nets.of(INPUT, LATCH, LATCH);
         x.feed(1, 0, false);
         x.feed(2, 0, true);
         int some = x.gate(OR);
@@ -477,7 +440,7 @@ public final class PromisesTest {
     }
 
     private static void promise12Always() {
-        StateExplorer x = netOf(INPUT, LATCH, AND, OR, LATCH, OR);
+        StateExplorer x = Nets.of(INPUT, LATCH, AND, OR, LATCH, OR);
         x.feed(5, 0, false);
         x.feed(5, 0, true);
         x.feed(4, 5, false);
@@ -490,11 +453,11 @@ public final class PromisesTest {
         Checks.same("12: what is one or the other", x.always(5), 1);
         Checks.thrown("12: always(6)", INDEX, () -> x.always(6));
         Checks.thrown("12: always(-1)", INDEX, () -> x.always(-1));
-        StateExplorer never = netOf(AND, OR);
+        StateExplorer never = Nets.of(AND, OR);
         never.feed(1, 1, false);
         never.explore();
         Checks.same("12: where the net never settles", never.always(0), 2);
-        StateExplorer half = netOf(INPUT, AND);
+        StateExplorer half = Nets.of(INPUT, AND);
         half.feed(1, 1, false);
         half.feed(1, 0, false);
         half.explore();
@@ -503,7 +466,7 @@ public final class PromisesTest {
     }
 
     private static void promise13IsSame() {
-        StateExplorer x = netOf(INPUT, LATCH, AND, OR, LATCH);
+        StateExplorer x = Nets.of(INPUT, LATCH, AND, OR, LATCH);
         x.feed(2, 0, false);
         x.feed(3, 0, true);
         x.feed(1, 2, false);
@@ -518,17 +481,17 @@ public final class PromisesTest {
         Checks.thrown("13: isSame(0, 5)", INDEX, () -> x.isSame(0, 5) ? 1 : 0);
         Checks.thrown("13: isSame(-1, 0)", INDEX, () -> x.isSame(-1, 0) ? 1 : 0);
         Checks.thrown("13: isSame(0, -1)", INDEX, () -> x.isSame(0, -1) ? 1 : 0);
-        StateExplorer never = netOf(AND, OR, OR);
+        StateExplorer never = Nets.of(AND, OR, OR);
         never.feed(2, 2, true);
         never.explore();
         Checks.same("13: where the net never settles", never.isSame(0, 1) ? 1 : 0, 1);
-        StateExplorer still = netExplored(LATCH, OR, LATCH);
+        StateExplorer still = Nets.explored(LATCH, OR, LATCH);
         Checks.same("13: only reached states", still.isSame(0, 1) ? 1 : 0, 1);
     }
 
     /** Gates that differ in one state of 256 alone, the first or the last one. */
     private static void promise12And13InManyStates() {
-        StateExplorer x = counter(8);
+        StateExplorer x = Nets.counter(8);
         int last = x.gate(AND);
         int notFirst = x.gate(OR);
         for (int latch = 0; latch < 8; latch++) {
@@ -550,7 +513,7 @@ public final class PromisesTest {
     }
 
     private static void promise14GroupByNext() {
-        StateExplorer x = counter(4);
+        StateExplorer x = Nets.counter(4);
         x.output(0);
         x.output(1);
         x.explore();
@@ -558,9 +521,9 @@ public final class PromisesTest {
         for (int state = 0; state < 16; state++) {
             Checks.same("14: group(" + state + ") of four", x.group(state), state & 3);
         }
-        StateExplorer by0 = netOf(INPUT, LATCH, LATCH);
+        StateExplorer by0 = Nets.of(INPUT, LATCH, LATCH);
         by0.feed(1, 0, false);
-        by0.feed(2, and(by0, 1, false, 0, true), false);
+        by0.feed(2, Nets.and(by0, 1, false, 0, true), false);
         by0.output(2);
         Checks.same("14: states 0, 1, 2", by0.explore(), 3);
         Checks.same("14: told apart by the next states of choice 0", by0.group(1), 1);
@@ -569,7 +532,7 @@ public final class PromisesTest {
     }
 
     private static void promise14Group() {
-        StateExplorer x = counter(3);
+        StateExplorer x = Nets.counter(3);
         x.explore();
         Checks.same("14: without outputs all are one group", x.count(8), 1);
         Checks.same("14: which is called 0", x.group(7), 0);
@@ -585,29 +548,29 @@ public final class PromisesTest {
         Checks.same("14: group(6)", x.group(6), 6);
         Checks.thrown("14: group(8)", INDEX, () -> x.group(8));
         Checks.thrown("14: group(-1)", INDEX, () -> x.group(-1));
-        StateExplorer still = netExplored(LATCH);
+        StateExplorer still = Nets.explored(LATCH);
         Checks.same("14: a state that is not reached", still.group(1), NONE);
-        StateExplorer mealy = netOf(INPUT, LATCH);
+        StateExplorer mealy = Nets.of(INPUT, LATCH);
         mealy.feed(1, 0, false);
-        mealy.output(and(mealy, 0, false, 1, false));
+        mealy.output(Nets.and(mealy, 0, false, 1, false));
         mealy.explore();
         Checks.same("14: told apart by an output with choice 1 alone", mealy.group(1), 1);
     }
 
     /** The latch follows the input; gate 2 does not settle with the input at the latch's 1. */
     private static void promise14GroupBySettling() {
-        StateExplorer x = netOf(INPUT, LATCH, AND);
+        StateExplorer x = Nets.of(INPUT, LATCH, AND);
         x.feed(1, 0, false);
         x.feed(2, 2, false);
         x.feed(2, 0, false);
         x.feed(2, 1, false);
         Checks.same("14: two states", x.explore(), 2);
         Checks.same("14: told apart by settling", x.group(1), 1);
-        StateExplorer hidden = netOf(INPUT, LATCH, AND);
+        StateExplorer hidden = Nets.of(INPUT, LATCH, AND);
         hidden.feed(1, 0, true);
         hidden.feed(2, 2, false);
         hidden.feed(2, 0, false);
-        int seen = and(hidden, 1, false, 0, false);
+        int seen = Nets.and(hidden, 1, false, 0, false);
         hidden.output(seen);
         hidden.output(2);
         Checks.same("14: two states again", hidden.explore(), 2);
@@ -617,7 +580,7 @@ public final class PromisesTest {
 
     /** Only the last state of the row differs, so each round of splitting parts one state off. */
     private static void promise14GroupLongChain() {
-        StateExplorer x = counter(8);
+        StateExplorer x = Nets.counter(8);
         int last = x.gate(AND);
         for (int latch = 0; latch < 8; latch++) {
             x.feed(last, latch, false);
@@ -630,7 +593,7 @@ public final class PromisesTest {
     }
 
     private static void promise15Count() {
-        StateExplorer x = counter(2);
+        StateExplorer x = Nets.counter(2);
         x.output(1);
         x.output(2);
         x.gate(INPUT);
@@ -647,7 +610,7 @@ public final class PromisesTest {
         Checks.same("15: count(-1)", x.count(-1), NONE);
         Checks.same("15: count(least int)", x.count(Integer.MIN_VALUE), NONE);
         Checks.same("15: count(greatest int)", x.count(Integer.MAX_VALUE), NONE);
-        StateExplorer never = netOf(INPUT, INPUT, LATCH, OR);
+        StateExplorer never = Nets.of(INPUT, INPUT, LATCH, OR);
         never.feed(3, 3, false);
         never.explore();
         Checks.same("15: four choices of two inputs", never.count(9), 4);
@@ -656,7 +619,7 @@ public final class PromisesTest {
     }
 
     private static void questionsBeforeExploring() {
-        StateExplorer x = netOf(INPUT, LATCH);
+        StateExplorer x = Nets.of(INPUT, LATCH);
         for (int wrong = -9; wrong <= 9; wrong += 9) {
             int number = wrong;
             Checks.thrown("7: nothing is explored", STATE, () -> x.distance(number));
@@ -674,7 +637,7 @@ public final class PromisesTest {
     }
 
     private static void whatForgets() {
-        StateExplorer x = netExplored(LATCH, AND);
+        StateExplorer x = Nets.explored(LATCH, AND);
         x.gate(OR);
         Checks.same("2: a new gate forgets", x.count(5), 0);
         x.explore();
@@ -694,7 +657,7 @@ public final class PromisesTest {
     }
 
     private static void whatDoesNotForget() {
-        StateExplorer x = netOf(INPUT, INPUT, INPUT, INPUT, AND, LATCH);
+        StateExplorer x = Nets.of(INPUT, INPUT, INPUT, INPUT, AND, LATCH);
         for (int i = 0; i < 240; i++) {
             x.feed(4, 0, false);
         }

@@ -30,6 +30,8 @@ public final class BoundariesTest {
         withoutAnyFeed();
         latchWithoutFeedStays();
         knownAgainAndAgain();
+        zerosGoOn();
+        zerosAndOnesByTurns();
         onlyChoicesWithWhichItSettles();
         shortestStepsCount();
         changesForget();
@@ -89,6 +91,7 @@ public final class BoundariesTest {
         groupByOneChoice();
         groupBySettlingWithOneChoice();
         groupByLastOutput();
+        groupsAnew();
         groupOfMissingStates();
     }
 
@@ -217,6 +220,34 @@ public final class BoundariesTest {
             Checks.same("60 gates, one behind the other", x.count(9), 0);
             Checks.same("the last is 1", x.always(end), 1);
             Checks.same("the first, 59 behind, is 0", x.always(59 - end), 0);
+        }
+    }
+
+    // "till nothing more does": gate 2 is 0 with some choices at once, with others by gate 3 alone,
+    // which is never known to be 1
+    private static void zerosGoOn() {
+        StateExplorer x = Nets.of(INPUT, INPUT, AND, AND);
+        x.feed(2, 0, false);
+        x.feed(2, 3, false);
+        x.feed(3, 1, false);
+        x.feed(3, 3, false);
+        x.explore();
+        for (int choice = 0; choice < 4; choice++) {
+            Checks.same("settles by input 1, choice " + choice, x.next(0, choice), choice < 2 ? 0 : NONE);
+        }
+    }
+
+    // The same: a ring in which 0 and 1 go on by turns, each choice stopping somewhere else; only 5
+    // lets each gate wait for the next one.
+    private static void zerosAndOnesByTurns() {
+        StateExplorer x = Nets.of(INPUT, INPUT, INPUT, INPUT, AND, OR, AND, OR);
+        for (int i = 0; i < 4; i++) {
+            x.feed(4 + i, i, false);
+            x.feed(4 + i, 4 + (i + 1) % 4, i == 3);
+        }
+        x.explore();
+        for (int choice = 0; choice < 16; choice++) {
+            Checks.same("the ring with choice " + choice, x.next(0, choice), choice == 5 ? NONE : 0);
         }
     }
 
@@ -958,6 +989,24 @@ public final class BoundariesTest {
             }
             x.explore();
             Checks.same("told apart by output " + place, x.group(1), 1);
+        }
+    }
+
+    // "Whatever changes the net .. forgets what was explored": as many groups as there were before are
+    // told apart by the outputs at first, and more by the next states then
+    private static void groupsAnew() {
+        StateExplorer x = Nets.counter(3);
+        int seen = x.gate(AND);
+        x.output(seen);
+        x.feed(seen, 0, false);
+        x.explore();
+        Checks.same("even and odd states", x.count(8), 2);
+        x.feed(seen, 1, false);
+        x.feed(seen, 2, false);
+        x.explore();
+        Checks.same("only 7 is seen, but all are told apart", x.count(8), 8);
+        for (int state = 0; state < 8; state++) {
+            Checks.same("each is a group, " + state, x.group(state), state);
         }
     }
 
